@@ -594,7 +594,7 @@ public final class OneLampAllOut {
             return sum;
         }
 
-        /** Whether none of the lamps from..to is open or hanging; nothing is whole where to is below from. */
+        /** Whether none of the lamps from .. to is open or hanging; a stretch without lamps is whole. */
         boolean isWhole(int from, int to) {
             for (int i = from; i <= to && i < size; i++) {
                 if (lamps[i].breaksRow()) {
@@ -635,30 +635,25 @@ public final class OneLampAllOut {
 
         /** An HOUR goes by: how many are no more WELL by it. */
         int passHour() {
-            int wellBefore = howMany(WELL);
-            // A live row's flow may be cut to 0, so it is asked for being live, not for its flow.
-            if (isLive()) {
-                burnAll(flowNow());
+            // A live row's flow may be cut to 0, so being live is asked for on its own.
+            boolean live = isLive();
+            int flow = live ? flowThrough(allDrags()) : 0;
+            int gone = 0;
+            for (int i = 0; i < size; i++) {
+                Lamp one = lamps[i];
+                boolean wasWell = one.isWell();
+                if (wasWell && live) {
+                    one.burn(flow);
+                }
+                if (one.isWell() && one.worksLoose(hours, settings[GRIP])) {
+                    one.condition = HANGING;
+                }
+                if (wasWell && !one.isWell()) {
+                    gone++;
+                }
             }
-            loosenAll();
             hours++;
-            return wellBefore - howMany(WELL);
-        }
-
-        private void burnAll(int flow) {
-            for (int i = 0; i < size; i++) {
-                if (lamps[i].isWell()) {
-                    lamps[i].burn(flow);
-                }
-            }
-        }
-
-        private void loosenAll() {
-            for (int i = 0; i < size; i++) {
-                if (lamps[i].isWell() && lamps[i].worksLoose(hours, settings[GRIP])) {
-                    lamps[i].condition = HANGING;
-                }
-            }
+            return gone;
         }
 
         void touchAt(int i) {
@@ -825,8 +820,8 @@ public final class OneLampAllOut {
 
         private int leastOf(Row row, int from, int to, int by) {
             int weight = weightOf(row, from, to);
-            int best = Integer.MAX_VALUE;
-            for (int p = from + 1; p <= to; p++) {
+            int best = costOf(row, from, to, from + 1, weight, by);
+            for (int p = from + 2; p <= to; p++) {
                 best = Math.min(best, costOf(row, from, to, p, weight, by));
             }
             return best;

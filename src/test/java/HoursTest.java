@@ -19,6 +19,10 @@ final class HoursTest {
         OneLampAllOut x = new OneLampAllOut();
         Check.due("hour()", x.hour(), 0);
         Check.due("HOUR", x.count(5), 1);
+        for (int h = 1; h < 9999; h++) {
+            Check.due("hour()", x.hour(), 0);
+        }
+        Check.refused(x, "hour(), HOUR is 9999", x::hour, -6);
     }
 
     /** Each KIND that is hurt, alone: the hour in which it dies, and as what. */
@@ -103,6 +107,10 @@ final class HoursTest {
         Check.due("GRIP 5 modulo 5 is 0", y.hour(), 1);
         Check.due("RUSTED", y.lamp(1, 4), 3);
         Check.due("LOOSE", y.lamp(0, 4), 0);
+        Check.due("mended", y.touch(1), 0);
+        for (int h = 1; h < 6; h++) {
+            Check.due("HOUR " + h, y.hour(), h == 5 ? 2 : 0);
+        }
         // one that dies in the HOUR in which it would hang is OPEN
         OneLampAllOut z = Check.with("p21,1;u230;");
         z.hour();

@@ -5,6 +5,7 @@ final class KeepTest {
 
     public static void main(String[] args) {
         images();
+        newLampsAreNew();
         counts();
         refusals();
         Check.close("KeepTest");
@@ -42,6 +43,19 @@ final class KeepTest {
         Check.due("told looks", x.count(8), 1);
         Check.due("NOBODY", x.count(11), 1);
         Check.due("STATE", x.count(13), 1);
+    }
+
+    /** A lamp that comes where one of a row that is gone was. */
+    private static void newLampsAreNew() {
+        OneLampAllOut x = new OneLampAllOut();
+        x.image();
+        Check.tell(x, "p01,1;");
+        Check.due("it dies in mind", x.lasts(), 1);
+        Check.due("it dies", x.hour(), 1);
+        Check.due("restore", x.restore(), 0);
+        Check.tell(x, "p01,1;");
+        Check.due("WELL", x.lamp(0, 4), 0);
+        Check.due("HURT", x.lamp(0, 3), 0);
     }
 
     private static void counts() {

@@ -117,7 +117,7 @@ final class LanguageTest {
         Check.due("method references", count(code, "::"), 0);
         Check.due("functions that end in Exact", count(code, "Exact\\b"), 0);
         Check.due("loops without an end", count(code, "while\\s*\\(\\s*true|for\\s*\\(\\s*;\\s*;"), 0);
-        Check.due("library calls but of Math", count(code, "\\b(?!Math|Integer|Row|Chance)[A-Z]\\w*\\.(?!MAX)\\w+\\("), 0);
+        Check.due("library calls but of Math", count(code, "\\b(?!Math\\.(?:min|max)\\(|Chance\\.)[A-Z]\\w*\\.\\w+"), 0);
         // a method of some sixty lines: its body begins and ends with the same indent
         Matcher method = Pattern.compile("(?m)^( {4}| {8})(?! )[^\n;=]*\\)\\s*\\{\n(.*?)^\\1\\}", Pattern.DOTALL)
             .matcher(code);

@@ -63,6 +63,8 @@ final class LooksTest {
         Check.refused(x, "finder(-1)", () -> x.finder(-1), -1);
         OneLampAllOut y = Check.with("p01,1;d0,1;");
         Check.due("nothing is ahead of the first", y.finder(0), 1);
+        Check.tell(y, "p01,1;");
+        Check.due("the first is ahead of the second", y.finder(1), 0);
     }
 
     private static void touches() {
@@ -149,6 +151,7 @@ final class LooksTest {
     private static void orders() {
         // MINUTES by weight: 3, 2, 5 by 4, 2
         OneLampAllOut x = Check.with("p01,3;p11,2;p21,5;p01,2;");
+        Check.due("the sum, asked for first", x.orderSum(), 48);
         int[] due = {2, 1, 3, 0, -9};
         for (int k = 0; k < due.length; k++) {
             Check.due("order(" + k + ")", x.order(k), due[k]);

@@ -15,6 +15,7 @@ final class MindTest {
         joined();
         two();
         seeds();
+        fullRow();
         nothingComesOfIt();
         Check.close("MindTest");
     }
@@ -56,6 +57,14 @@ final class MindTest {
         Check.due("lasts above 400", y.lasts(), -9);
         Check.due("next above 400", y.next(1), -9);
         Check.due("next above 400", y.next(0), -9);
+        for (int h = 0; h < 9; h++) {
+            y.hour();
+        }
+        Check.due("lasts 401", y.lasts(), -9);
+        Check.due("next 401", y.next(1), -9);
+        y.hour();
+        Check.due("lasts 400, from now", y.lasts(), 400);
+        Check.due("next 400, from now", y.next(1), 400);
         Check.refused(y, "next(2)", () -> y.next(2), -2);
         Check.refused(y, "next(-1)", () -> y.next(-1), -2);
         OneLampAllOut empty = new OneLampAllOut();
@@ -89,7 +98,12 @@ final class MindTest {
         OneLampAllOut y = Check.with("p140,1;u10;");
         Check.due("after 400", y.bridged(1), 400);
         OneLampAllOut z = Check.with("p141,1;u10;");
-        Check.due("after more", z.bridged(1), -9);
+        for (int h = 0; h < 9; h++) {
+            z.hour();
+        }
+        Check.due("after 401", z.bridged(1), -9);
+        z.hour();
+        Check.due("after 400, from now", z.bridged(1), 400);
     }
 
     private static void stops() {
@@ -170,6 +184,9 @@ final class MindTest {
         Check.due("999 by 230", x.joined(), 4);
         x.set(0, 1);
         Check.due("FLOW 10: by 1", x.joined(), 999);
+        x.set(0, 2);
+        Check.due("FLOW 20: by 2", x.joined(), 499);
+        x.set(0, 1);
         Check.tell(x, "p51,1;");
         Check.due("FLOW 3: by 1 at least", x.joined(), 999);
         Check.tell(x, "d0,1;");
@@ -236,6 +253,24 @@ final class MindTest {
         // of 1 the second is 5758, the third 10113
         Check.due("seed 1, two", y.seeds(2, 1), 2);
         Check.due("seed 1, three", y.seeds(3, 1), 1);
+    }
+
+    /** Twelve lamps: FLOW 200, BRIGHT 20, HURT 2 each HOUR, all are OPEN after 50. */
+    private static void fullRow() {
+        OneLampAllOut x = Check.with("p010,1;p010,1;p010,1;p010,1;p010,1;p010,1;u240;");
+        Check.due("six more", Check.tell(x, "p010,1;p010,1;p010,1;p010,1;p010,1;p010,1;"), 6);
+        x.set(2, 999);
+        long[] got = {x.count(0), x.lasts(), x.next(0), x.next(1), x.keeps(50), x.keeps(51), x.keeps(200),
+            x.allAnew(), x.light(50), x.light(51), x.orderSum(), x.order(11), x.order(12), x.find(0, 11, 0),
+            x.find(0, 11, 1), x.openTo(), x.told(11, 1), x.openTo(), x.judge(), x.stop(), x.seeds(49, 1),
+            x.seeds(50, 1), x.bridged(1), x.meter(0, 11), x.finder(11), x.hour(), x.count(9), x.joined()};
+        long[] due = {12, 50, 0, 50, 0, 12, 36,
+            50, 12000, 12000, 78, 11, -9, 44,
+            4, 4095, 1, 2048, -9, 10, 12,
+            0, -9, 1, 1, 0, 24, 49};
+        for (int i = 0; i < due.length; i++) {
+            Check.due("twelve lamps, call " + i, got[i], due[i]);
+        }
     }
 
     private static void nothingComesOfIt() {
