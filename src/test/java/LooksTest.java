@@ -212,6 +212,7 @@ final class LooksTest {
     /** A restored row may be shorter than the looks that were told of the longer one. */
     private static void toldLooksAndRestore() {
         OneLampAllOut x = new OneLampAllOut();
+        Check.due("no LAMPS, no looks", x.judge(), -9);
         x.image();
         Check.tell(x, "p01,1;p01,1;p01,1;");
         x.told(2, 1);
