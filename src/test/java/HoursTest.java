@@ -5,6 +5,7 @@ final class HoursTest {
 
     public static void main(String[] args) {
         empty();
+        lastHour();
         hurtAndDeath();
         together();
         melting();
@@ -16,13 +17,22 @@ final class HoursTest {
     }
 
     private static void empty() {
-        OneLampAllOut x = new OneLampAllOut();
+        Watched x = new Watched();
         Check.due("hour()", x.hour(), 0);
         Check.due("HOUR", x.count(5), 1);
-        for (int h = 1; h < 9999; h++) {
+    }
+
+    /** Promised calls do not reach HOUR 9999, so this one object goes far behind its 512th. */
+    private static void lastHour() {
+        OneLampAllOut x = new OneLampAllOut();
+        for (int h = 0; h < 9999; h++) {
             Check.due("hour()", x.hour(), 0);
         }
-        Check.refused(x, "hour(), HOUR is 9999", x::hour, -6);
+        Check.due("HOUR", x.count(5), 9999);
+        Check.due("hour(), HOUR is 9999", x.hour(), -6);
+        Check.due("hour(), HOUR is 9999, again", x.hour(), -6);
+        Check.due("REFUSALS -6", x.count(16), 2);
+        Check.due("HOUR as it was", x.count(5), 9999);
     }
 
     /** Each KIND that is hurt, alone: the hour in which it dies, and as what. */
@@ -36,7 +46,7 @@ final class HoursTest {
     }
 
     private static void dies(String text, int hours, int hurt, int condition) {
-        OneLampAllOut x = Check.with(text);
+        Watched x = Check.with(text);
         for (int h = 1; h < hours; h++) {
             Check.due(text + " hour " + h, x.hour(), 0);
             Check.due(text + " HURT", x.lamp(0, 3), h * hurt);
@@ -52,7 +62,7 @@ final class HoursTest {
 
     /** FLOW and BRIGHT are as they were ahead of the HOUR, though one dies in it. */
     private static void together() {
-        OneLampAllOut x = Check.with("p11,1;p01,1;p099,1;u30;");
+        Watched x = Check.with("p11,1;p01,1;p099,1;u30;");
         // FLOW 100, BRIGHT 10, HURT 1
         for (int h = 1; h < 10; h++) {
             Check.due("hour", x.hour(), 0);
@@ -66,7 +76,7 @@ final class HoursTest {
     }
 
     private static void melting() {
-        OneLampAllOut x = Check.with("p420,1;u6;");
+        Watched x = Check.with("p420,1;u6;");
         Check.due("FLOW is 5 times LIFE", x.flow(), 100);
         Check.due("that is not above", x.hour(), 0);
         Check.tell(x, "p419,1;u12;");
@@ -75,12 +85,12 @@ final class HoursTest {
         Check.due("OPEN", x.lamp(1, 4), 1);
         Check.due("WELL", x.lamp(0, 4), 0);
         Check.due("not LIVE: none dies", x.hour(), 0);
-        OneLampAllOut y = Check.with("p499,1;u24;");
+        Watched y = Check.with("p499,1;u24;");
         Check.due("FLOW", y.flow(), 400);
         Check.due("hour", y.hour(), 0);
         Check.due("it is HURT all the same", y.lamp(0, 3), 2);
         // a BRIDGER that goes lets the flow rise
-        OneLampAllOut z = Check.with("p430,1;p11,1;p099,1;u26;");
+        Watched z = Check.with("p430,1;p11,1;p099,1;u26;");
         Check.due("FLOW", z.flow(), 100);
         for (int h = 1; h < 10; h++) {
             Check.due("hour", z.hour(), 0);
@@ -93,7 +103,7 @@ final class HoursTest {
 
     private static void loose() {
         // an OPEN one in the row: they work loose whether it is LIVE or not
-        OneLampAllOut x = Check.with("p01,1;p299,1;p399,1;d0,1;g7;");
+        Watched x = Check.with("p01,1;p299,1;p399,1;d0,1;g7;");
         for (int h = 0; h < 10; h++) {
             Check.due("HOUR " + h, x.hour(), h == 2 || h == 7 ? 1 : 0);
             Check.due("RUSTED", x.lamp(2, 4), h >= 2 ? 3 : 0);
@@ -103,7 +113,7 @@ final class HoursTest {
         for (int h = 10; h < 18; h++) {
             Check.due("HOUR " + h, x.hour(), h == 17 ? 1 : 0);
         }
-        OneLampAllOut y = Check.with("p299,1;p399,1;u1;g5;");
+        Watched y = Check.with("p299,1;p399,1;u1;g5;");
         Check.due("GRIP 5 modulo 5 is 0", y.hour(), 1);
         Check.due("RUSTED", y.lamp(1, 4), 3);
         Check.due("LOOSE", y.lamp(0, 4), 0);
@@ -112,10 +122,10 @@ final class HoursTest {
             Check.due("HOUR " + h, y.hour(), h == 5 ? 2 : 0);
         }
         // one that dies in the HOUR in which it would hang is OPEN
-        OneLampAllOut z = Check.with("p21,1;u230;");
+        Watched z = Check.with("p21,1;u230;");
         z.hour();
         Check.due("dead of HURT", z.lamp(0, 4), 1);
-        OneLampAllOut w = Check.with("p23,1;u100;g2;");
+        Watched w = Check.with("p23,1;u100;g2;");
         w.hour();
         w.hour();
         Check.due("the third", w.hour(), 1);
@@ -124,7 +134,7 @@ final class HoursTest {
 
     /** One with HURT enough that is WELL again dies only while the row is LIVE. */
     private static void deadRowsAreNotHurt() {
-        OneLampAllOut x = Check.with("p01,1;p01,1;u230;");
+        Watched x = Check.with("p01,1;p01,1;u230;");
         Check.due("both", x.hour(), 2);
         Check.tell(x, "d0,0;");
         Check.due("not LIVE", x.hour(), 0);
@@ -136,7 +146,7 @@ final class HoursTest {
     }
 
     private static void hurtHasAGreatest() {
-        OneLampAllOut x = Check.with("p399,1;u999;");
+        Watched x = Check.with("p399,1;u999;");
         for (int h = 0; h < 120; h++) {
             x.hour();
             if (x.lamp(0, 4) == 3) {
@@ -150,7 +160,7 @@ final class HoursTest {
 
     /** A row whose FLOW is cut to 0 is LIVE, so one with HURT enough dies in it. */
     private static void liveWithoutFlow() {
-        OneLampAllOut x = Check.with("p01,1;p53,1;p53,1;p53,1;p53,1;p53,1;p53,1;u999;");
+        Watched x = Check.with("p01,1;p53,1;p53,1;p53,1;p53,1;p53,1;p53,1;u999;");
         Check.due("HURT 7", x.hour(), 0);
         Check.due("HURT 14", x.hour(), 1);
         Check.tell(x, "d0,0;u1;");

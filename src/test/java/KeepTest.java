@@ -12,7 +12,7 @@ final class KeepTest {
     }
 
     private static void images() {
-        OneLampAllOut x = new OneLampAllOut();
+        Watched x = new Watched();
         Check.refused(x, "restore() without an image", x::restore, -3);
         Check.tell(x, "p02,1;p29,2;g7;");
         x.set(1, 9);
@@ -47,7 +47,7 @@ final class KeepTest {
 
     /** A lamp that comes where one of a row that is gone was. */
     private static void newLampsAreNew() {
-        OneLampAllOut x = new OneLampAllOut();
+        Watched x = new Watched();
         x.image();
         Check.tell(x, "p01,1;");
         Check.due("it dies in mind", x.lasts(), 1);
@@ -59,7 +59,7 @@ final class KeepTest {
     }
 
     private static void counts() {
-        OneLampAllOut x = Check.with("p099,1;p099,1;p099,1;p099,1;p099,1;p099,1;u600;");
+        Watched x = Check.with("p099,1;p099,1;p099,1;p099,1;p099,1;p099,1;u600;");
         Check.due("LIVE", x.count(6), 1);
         x.hour();
         Check.tell(x, "d0,1;d1,2;d2,2;d3,3;d4,3;");
@@ -78,7 +78,7 @@ final class KeepTest {
     }
 
     private static void refusals() {
-        OneLampAllOut x = new OneLampAllOut();
+        Watched x = new Watched();
         x.lamp(0, 0);
         x.set(4, 0);
         x.set(5, 0);

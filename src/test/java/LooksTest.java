@@ -19,7 +19,7 @@ final class LooksTest {
     }
 
     private static void swaps() {
-        OneLampAllOut x = Check.with("p01,4;p37,2;u300;");
+        Watched x = Check.with("p01,4;p37,2;u300;");
         Check.due("hour", x.hour(), 1);
         Check.due("OPEN", x.lamp(0, 4), 1);
         Check.tell(x, "d1,3;");
@@ -40,7 +40,7 @@ final class LooksTest {
     }
 
     private static void meters() {
-        OneLampAllOut x = Check.with("p01,1;p01,1;p01,1;p01,1;p01,1;d1,1;d2,2;d4,3;");
+        Watched x = Check.with("p01,1;p01,1;p01,1;p01,1;p01,1;d1,1;d2,2;d4,3;");
         int[][] rows = {{0, 0, 1}, {0, 1, 0}, {1, 1, 0}, {2, 2, 1}, {2, 3, 1}, {3, 4, 0}, {4, 4, 0}, {0, 4, 0}};
         for (int[] row : rows) {
             Check.due("meter(" + row[0] + ", " + row[1] + ")", x.meter(row[0], row[1]), row[2]);
@@ -54,21 +54,21 @@ final class LooksTest {
     }
 
     private static void finders() {
-        OneLampAllOut x = Check.with("p01,1;p01,1;p01,1;p01,1;d0,2;d1,3;");
+        Watched x = Check.with("p01,1;p01,1;p01,1;p01,1;d0,2;d1,3;");
         int[] due = {1, 1, 0, 0};
         for (int i = 0; i < 4; i++) {
             Check.due("finder(" + i + ")", x.finder(i), due[i]);
         }
         Check.refused(x, "finder(4)", () -> x.finder(4), -1);
         Check.refused(x, "finder(-1)", () -> x.finder(-1), -1);
-        OneLampAllOut y = Check.with("p01,1;d0,1;");
+        Watched y = Check.with("p01,1;d0,1;");
         Check.due("nothing is ahead of the first", y.finder(0), 1);
         Check.tell(y, "p01,1;");
         Check.due("the first is ahead of the second", y.finder(1), 0);
     }
 
     private static void touches() {
-        OneLampAllOut x = Check.with("p01,1;p11,1;p21,1;p31,1;p41,1;p51,1;");
+        Watched x = Check.with("p01,1;p11,1;p21,1;p31,1;p41,1;p51,1;");
         int[] byGrip3 = {0, 0, 3, 3, 0, 0};
         for (int i = 0; i < 6; i++) {
             Check.due("touch of a WELL one, GRIP 3", x.touch(i), byGrip3[i]);
@@ -93,7 +93,7 @@ final class LooksTest {
 
     private static void searches() {
         // weights 1, 1, 4
-        OneLampAllOut x = Check.with("p01,3;p11,2;p21,5;");
+        Watched x = Check.with("p01,3;p11,2;p21,5;");
         Check.due("MEAN: 5 * 6 and 2 * 2", x.find(0, 2, 0), 34);
         Check.due("its look", x.look(0, 2, 0), 2);
         Check.due("WORST: 2 and 5, or 5 and 2", x.find(0, 2, 1), 7);
@@ -109,14 +109,14 @@ final class LooksTest {
             }
         }
         // the first place's MINUTES are never taken; equal costs: the least place
-        OneLampAllOut y = Check.with("p01,9;p01,1;p01,1;p01,1;");
+        Watched y = Check.with("p01,9;p01,1;p01,1;p01,1;");
         Check.due("MEAN of four", y.find(0, 3, 0), 8);
         Check.due("look of four", y.look(0, 3, 0), 2);
         Check.due("WORST of four", y.find(0, 3, 1), 2);
         Check.due("MEAN of three", y.find(0, 2, 0), 5);
         Check.due("look of three", y.look(0, 2, 0), 1);
         // what is dear stays out of the way by MEAN and by WORST
-        OneLampAllOut z = Check.with("p01,1;p01,1;p01,9;p01,1;");
+        Watched z = Check.with("p01,1;p01,1;p01,9;p01,1;");
         Check.due("MEAN: 1 * 4, 1 * 3, 9 * 2", z.find(0, 3, 0), 25);
         Check.due("look", z.look(0, 3, 0), 1);
         Check.due("WORST: 1, 1, 9", z.find(0, 3, 1), 10);
@@ -125,7 +125,7 @@ final class LooksTest {
 
     private static void searchesByHurt() {
         // u200: FLOW 1000, BRIGHT 100, HURT 10 each HOUR; a BRIDGER's weight stays
-        OneLampAllOut x = Check.with("p099,1;p199,1;u200;");
+        Watched x = Check.with("p099,1;p199,1;u200;");
         Check.due("MEAN", x.find(0, 1, 0), 2);
         x.hour();
         Check.due("MEAN, weights 2 and 1", x.find(0, 1, 0), 3);
@@ -135,7 +135,7 @@ final class LooksTest {
     }
 
     private static void searchRefusals() {
-        OneLampAllOut x = Check.with("p01,3;p11,2;");
+        Watched x = Check.with("p01,3;p11,2;");
         Check.refused(x, "find(1, 0, 7)", () -> x.find(1, 0, 7), -1);
         Check.refused(x, "find(-1, 0, 0)", () -> x.find(-1, 0, 0), -1);
         Check.refused(x, "find(0, 2, 0)", () -> x.find(0, 2, 0), -1);
@@ -150,7 +150,7 @@ final class LooksTest {
 
     private static void orders() {
         // MINUTES by weight: 3, 2, 5 by 4, 2
-        OneLampAllOut x = Check.with("p01,3;p11,2;p21,5;p01,2;");
+        Watched x = Check.with("p01,3;p11,2;p21,5;p01,2;");
         Check.due("the sum, asked for first", x.orderSum(), 48);
         int[] due = {2, 1, 3, 0, -9};
         for (int k = 0; k < due.length; k++) {
@@ -160,7 +160,7 @@ final class LooksTest {
         Check.tell(x, "d2,2;d0,1;");
         Check.due("how they stand tells nothing", x.order(0), 2);
         // 4 by 4 and 1 by 1 are equal: as they hang
-        OneLampAllOut y = Check.with("p21,4;p01,1;p21,4;");
+        Watched y = Check.with("p21,4;p01,1;p21,4;");
         for (int k = 0; k < 3; k++) {
             Check.due("equal ones", y.order(k), k);
         }
@@ -168,7 +168,7 @@ final class LooksTest {
     }
 
     private static void orderEdges() {
-        OneLampAllOut x = new OneLampAllOut();
+        Watched x = new Watched();
         Check.due("order(0) without LAMPS", x.order(0), -9);
         Check.refused(x, "order(-1)", () -> x.order(-1), -4);
         Check.refused(x, "orderSum() without LAMPS", x::orderSum, -3);
@@ -180,7 +180,7 @@ final class LooksTest {
     }
 
     private static void toldLooks() {
-        OneLampAllOut x = Check.with("p01,1;p01,1;p01,1;p01,1;p01,1;");
+        Watched x = Check.with("p01,1;p01,1;p01,1;p01,1;p01,1;");
         Check.due("all are open", x.openTo(), 31);
         Check.due("judge without looks", x.judge(), -9);
         Check.due("live up to 2", x.told(2, 1), 1);
@@ -211,7 +211,7 @@ final class LooksTest {
 
     /** A restored row may be shorter than the looks that were told of the longer one. */
     private static void toldLooksAndRestore() {
-        OneLampAllOut x = new OneLampAllOut();
+        Watched x = new Watched();
         Check.due("no LAMPS, no looks", x.judge(), -9);
         x.image();
         Check.tell(x, "p01,1;p01,1;p01,1;");

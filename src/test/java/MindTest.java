@@ -22,7 +22,7 @@ final class MindTest {
 
     /** FLOW 2300, BRIGHT 230, HURT 23 each HOUR: it is OPEN after 5. */
     private static void oneLamp() {
-        OneLampAllOut x = Check.with("p010,1;");
+        Watched x = Check.with("p010,1;");
         Check.due("lasts", x.lasts(), 5);
         Check.due("next(0)", x.next(0), 0);
         Check.due("next(1)", x.next(1), 5);
@@ -49,11 +49,11 @@ final class MindTest {
 
     private static void lastsAndNext() {
         // BRIGHT 10, HURT 1 each HOUR
-        OneLampAllOut x = Check.with("p040,1;u10;");
+        Watched x = Check.with("p040,1;u10;");
         Check.due("lasts 400", x.lasts(), 400);
         Check.due("next 400", x.next(1), 400);
         Check.due("next 0", x.next(0), 0);
-        OneLampAllOut y = Check.with("p041,1;u10;");
+        Watched y = Check.with("p041,1;u10;");
         Check.due("lasts above 400", y.lasts(), -9);
         Check.due("next above 400", y.next(1), -9);
         Check.due("next above 400", y.next(0), -9);
@@ -67,13 +67,13 @@ final class MindTest {
         Check.due("next 400, from now", y.next(1), 400);
         Check.refused(y, "next(2)", () -> y.next(2), -2);
         Check.refused(y, "next(-1)", () -> y.next(-1), -2);
-        OneLampAllOut empty = new OneLampAllOut();
+        Watched empty = new Watched();
         Check.due("no LAMPS last", empty.lasts(), 0);
         Check.due("no LAMPS next", empty.next(1), -9);
     }
 
     private static void nextOfSeveral() {
-        OneLampAllOut x = Check.with("p05,1;p02,1;p12,1;p02,1;u400;d0,2;");
+        Watched x = Check.with("p05,1;p02,1;p12,1;p02,1;u400;d0,2;");
         // FLOW 40000 by 30 is 1333, BRIGHT 133, HURT 13: 26 after two
         Check.due("which", x.next(0), 1);
         Check.due("when", x.next(1), 2);
@@ -85,7 +85,7 @@ final class MindTest {
     }
 
     private static void bridged() {
-        OneLampAllOut x = Check.with("p110,1;p120,1;p599,1;u400;");
+        Watched x = Check.with("p110,1;p120,1;p599,1;u400;");
         // FLOW 1000, HURT 10 and 10; the second: 100 at 10, then FLOW 1333, HURT 13 each
         Check.due("bridged(0)", x.bridged(0), 0);
         Check.due("bridged(1)", x.bridged(1), 10);
@@ -95,9 +95,9 @@ final class MindTest {
         Check.refused(x, "bridged(13)", () -> x.bridged(13), -6);
         Check.tell(x, "d2,2;");
         Check.due("one is now", x.bridged(1), 0);
-        OneLampAllOut y = Check.with("p140,1;u10;");
+        Watched y = Check.with("p140,1;u10;");
         Check.due("after 400", y.bridged(1), 400);
-        OneLampAllOut z = Check.with("p141,1;u10;");
+        Watched z = Check.with("p141,1;u10;");
         for (int h = 0; h < 9; h++) {
             z.hour();
         }
@@ -107,10 +107,10 @@ final class MindTest {
     }
 
     private static void stops() {
-        OneLampAllOut empty = new OneLampAllOut();
+        Watched empty = new Watched();
         Check.refused(empty, "stop() without LAMPS", empty::stop, -3);
         // 200 by 30, by 20, by 10: 6, 10, 20
-        OneLampAllOut x = Check.with("p31,1;p51,1;p41,1;u2;d0,1;");
+        Watched x = Check.with("p31,1;p51,1;p41,1;u2;d0,1;");
         int[] limits = {5, 6, 9, 10, 19, 20, 999};
         int[] due = {0, 1, 1, 2, 2, -9, -9};
         for (int i = 0; i < limits.length; i++) {
@@ -120,18 +120,18 @@ final class MindTest {
     }
 
     private static void light() {
-        OneLampAllOut x = Check.with("p12,1;p099,1;u40;");
+        Watched x = Check.with("p12,1;p099,1;u40;");
         // FLOW 200, BRIGHT 20 and 20, HURT 2 and 2: BRIDGED after 10; then FLOW 400, BRIGHT 40
         Check.due("light(10)", x.light(10), 400);
         Check.due("light(12)", x.light(12), 480);
         Check.refused(x, "light(-1)", () -> x.light(-1), -4);
         Check.refused(x, "light(201)", () -> x.light(201), -6);
-        OneLampAllOut y = Check.with("p099,1;u1;");
+        Watched y = Check.with("p099,1;u1;");
         Check.due("light(200)", y.light(200), 200);
     }
 
     private static void keeps() {
-        OneLampAllOut x = Check.with("p12,1;p099,1;u40;d1,3;");
+        Watched x = Check.with("p12,1;p099,1;u40;d1,3;");
         // one at once; then the BRIDGER after each 10 HOURS, the LAMP after 495
         Check.due("keeps(1)", x.keeps(1), 1);
         Check.due("keeps(10)", x.keeps(10), 1);
@@ -143,21 +143,21 @@ final class MindTest {
         x.set(1, 0);
         Check.due("without SPARES", x.keeps(11), 2);
         // LOOSE: HANGING in the HOURS 3, 13, .. 193
-        OneLampAllOut y = Check.with("p299,1;u1;");
+        Watched y = Check.with("p299,1;u1;");
         Check.due("keeps(200) of a LOOSE one", y.keeps(200), 20);
         Check.due("keeps(4)", y.keeps(4), 0);
         Check.due("keeps(5)", y.keeps(5), 1);
     }
 
     private static void allAnew() {
-        OneLampAllOut empty = new OneLampAllOut();
+        Watched empty = new Watched();
         Check.refused(empty, "allAnew() without LAMPS", empty::allAnew, -3);
-        OneLampAllOut x = Check.with("p099,1;u1;");
+        Watched x = Check.with("p099,1;u1;");
         Check.due("50 at most", x.allAnew(), 50);
         Check.tell(x, "d0,1;");
         Check.due("a dead one is put anew first", x.allAnew(), 50);
         // a LOOSE one hangs in HOURS 9, 19, ..: anew ahead of 10, 20, ..
-        OneLampAllOut y = Check.with("p299,1;u1;g9;");
+        Watched y = Check.with("p299,1;u1;g9;");
         Check.due("each tenth", y.allAnew(), 10);
         y.set(3, 4);
         Check.due("ahead of 5, 15, ..", y.allAnew(), 5);
@@ -168,15 +168,15 @@ final class MindTest {
         y.hour();
         Check.due("from HOUR 1: ahead of 2, 12, ..", y.allAnew(), 2);
         // a MELTING one goes in each HOUR; with h 1 it is LIVE as each begins
-        OneLampAllOut z = Check.with("p41,1;u999;");
+        Watched z = Check.with("p41,1;u999;");
         Check.due("each HOUR", z.allAnew(), 1);
         // BRIDGED ones leave it LIVE, and HURT goes with them
-        OneLampAllOut w = Check.with("p11,1;p099,1;u40;");
+        Watched w = Check.with("p11,1;p099,1;u40;");
         Check.due("a BRIDGER may go", w.allAnew(), 50);
     }
 
     private static void joined() {
-        OneLampAllOut x = new OneLampAllOut();
+        Watched x = new Watched();
         Check.due("no LAMPS", x.joined(), 0);
         Check.tell(x, "p01,1;");
         Check.due("100 by 230", x.joined(), 0);
@@ -195,7 +195,7 @@ final class MindTest {
 
     private static void two() {
         long line = 4000000000000000000L;
-        OneLampAllOut x = new OneLampAllOut();
+        Watched x = new Watched();
         Check.due("two(2)", x.two(2), line + 2);
         Check.due("two(-1)", x.two(-1), line + 2);
         Check.due("two(0) without LAMPS", x.two(0), line + 3);
@@ -218,7 +218,7 @@ final class MindTest {
         Check.due("9 are, another part first", x.two(9), line + 2);
         Check.due("ROOM", x.count(16), 1);
         // 99 at most: HURT 1078 of a RUSTED one
-        OneLampAllOut y = Check.with("p399,1;u999;");
+        Watched y = Check.with("p399,1;u999;");
         for (int h = 0; h < 12; h++) {
             y.hour();
             if (y.lamp(0, 4) == 3) {
@@ -233,11 +233,11 @@ final class MindTest {
     }
 
     private static void seeds() {
-        OneLampAllOut empty = new OneLampAllOut();
+        Watched empty = new Watched();
         Check.refused(empty, "seeds(0, 1)", () -> empty.seeds(0, 1), -4);
         Check.refused(empty, "seeds(51, 1)", () -> empty.seeds(51, 1), -6);
         Check.refused(empty, "seeds(1, 1)", () -> empty.seeds(1, 1), -3);
-        OneLampAllOut x = Check.with("p299,1;u1;");
+        Watched x = Check.with("p299,1;u1;");
         Check.due("HANGING by the touch", x.seeds(1, 5), 0);
         Check.due("WELL by the second", x.seeds(2, 5), 1);
         x.set(3, 4);
@@ -246,7 +246,7 @@ final class MindTest {
         Check.due("touched ahead of HOUR 5", x.seeds(6, 5), 1);
         Check.due("seeds(50, 5)", x.seeds(50, 5), 1);
         // the first DRAWS: of 0 it is 0, of 1 it is 16838, of -1 it is 15929
-        OneLampAllOut y = Check.with("p099,1;p299,1;u1;");
+        Watched y = Check.with("p099,1;p299,1;u1;");
         Check.due("seed 0", y.seeds(1, 0), 2);
         Check.due("seed 1", y.seeds(1, 1), 2);
         Check.due("seed -1", y.seeds(1, -1), 1);
@@ -257,7 +257,7 @@ final class MindTest {
 
     /** Twelve lamps: FLOW 200, BRIGHT 20, HURT 2 each HOUR, all are OPEN after 50. */
     private static void fullRow() {
-        OneLampAllOut x = Check.with("p010,1;p010,1;p010,1;p010,1;p010,1;p010,1;u240;");
+        Watched x = Check.with("p010,1;p010,1;p010,1;p010,1;p010,1;p010,1;u240;");
         Check.due("six more", Check.tell(x, "p010,1;p010,1;p010,1;p010,1;p010,1;p010,1;"), 6);
         x.set(2, 999);
         long[] got = {x.count(0), x.lasts(), x.next(0), x.next(1), x.keeps(50), x.keeps(51), x.keeps(200),
@@ -274,7 +274,7 @@ final class MindTest {
     }
 
     private static void nothingComesOfIt() {
-        OneLampAllOut x = Check.with("p02,1;p13,2;p24,3;p35,4;p46,5;p57,6;");
+        Watched x = Check.with("p02,1;p13,2;p24,3;p35,4;p46,5;p57,6;");
         x.hour();
         x.told(1, 1);
         String before = Check.stateOf(x);

@@ -17,7 +17,7 @@ final class StringsTest {
     }
 
     private static void newObject() {
-        OneLampAllOut x = new OneLampAllOut();
+        Watched x = new Watched();
         for (int what = 0; what <= 9; what++) {
             Check.due("new: count(" + what + ")", x.count(what), 0);
         }
@@ -31,7 +31,7 @@ final class StringsTest {
     }
 
     private static void letters() {
-        OneLampAllOut x = new OneLampAllOut();
+        Watched x = new Watched();
         Check.refused(x, "feed(-1)", () -> x.feed(-1), -4);
         Check.refused(x, "feed(least)", () -> x.feed(Integer.MIN_VALUE), -4);
         Check.refused(x, "feed(256)", () -> x.feed(256), -6);
@@ -49,7 +49,7 @@ final class StringsTest {
     }
 
     private static void strings() {
-        OneLampAllOut x = new OneLampAllOut();
+        Watched x = new Watched();
         Check.due("4 statements", Check.tell(x, "p01,1;u7;d0,1;g9;"), 4);
         Check.due("LAMPS", x.count(0), 1);
         Check.due("OPEN", x.lamp(0, 4), 1);
@@ -71,7 +71,7 @@ final class StringsTest {
     }
 
     private static void faultsOfForm() {
-        OneLampAllOut x = new OneLampAllOut();
+        Watched x = new Watched();
         Check.tell(x, "p01,1;");
         String[] texts = {"", "x", ";", "p", "p0", "p0,", "p01", "p012,", "p0123", "p01,12", "p01,1", "p01,1;;",
             "p01,x", "px", "P01,1;", "u", "ux", "u;", "u1000;", "u1", "d", "d0", "d000,1;", "d0;", "d0,", "d0,12;",
@@ -91,7 +91,7 @@ final class StringsTest {
     }
 
     private static void faultsOfSense() {
-        OneLampAllOut x = new OneLampAllOut();
+        Watched x = new Watched();
         String[] texts = {"p61,1;", "p91,1;", "p00,1;", "p000,1;", "p01,0;", "u0;", "u000;", "d0,0;", "g0;",
             "p01,1;d1,0;", "p01,1;d0,4;", "p01,1;d0,9;", "d0,1;p01,1;", "u1;g0;u0;", "p01,1;p01,0;x0;"};
         int[] faults = {-2000, -2000, -2000, -2000, -2000, -2000, -2000, -2000, -2000,
@@ -103,7 +103,7 @@ final class StringsTest {
     }
 
     private static void faultsChangeNothing() {
-        OneLampAllOut x = Check.with("p29,2;u50;");
+        Watched x = Check.with("p29,2;u50;");
         String before = Check.stateOf(x);
         Check.due("fault behind good ones", Check.tell(x, "p01,1;u9;g9;d0,1;d5,1;"), -2017);
         Check.same("state", Check.stateOf(x), before);
@@ -113,7 +113,7 @@ final class StringsTest {
     }
 
     private static void lamps() {
-        OneLampAllOut x = Check.with("p08,1;p17,2;p26,3;p35,4;p44,5;p53,6;");
+        Watched x = Check.with("p08,1;p17,2;p26,3;p35,4;p44,5;p53,6;");
         int[] drags = {10, 10, 10, 15, 6, 20};
         // 23000 by 71 is 323
         int[] brights = {32, 32, 32, 48, 19, 64};
@@ -142,7 +142,7 @@ final class StringsTest {
     }
 
     private static void settings() {
-        OneLampAllOut x = new OneLampAllOut();
+        Watched x = new Watched();
         int[] least = {1, 0, 1, 1};
         int[] greatest = {999, 99, 999, 9};
         int[] first = {230, 3, 100, 3};
@@ -159,7 +159,7 @@ final class StringsTest {
     }
 
     private static void flows() {
-        OneLampAllOut x = new OneLampAllOut();
+        Watched x = new Watched();
         Check.due("no LAMPS", x.flow(), 0);
         Check.tell(x, "p01,1;");
         Check.due("23000 by 10", x.flow(), 2300);
@@ -174,10 +174,10 @@ final class StringsTest {
         Check.tell(x, "d0,2;");
         Check.due("all are bridged", x.flow(), 0);
         Check.due("all are bridged", x.count(6), 0);
-        OneLampAllOut y = Check.with("p499,1;u999;");
+        Watched y = Check.with("p499,1;u999;");
         Check.due("9999 at most", y.flow(), 9999);
         Check.due("BRIGHT of that", y.lamp(0, 6), 599);
-        OneLampAllOut z = Check.with("p51,1;p51,1;p51,1;p51,1;p51,1;p51,1;u1;");
+        Watched z = Check.with("p51,1;p51,1;p51,1;p51,1;p51,1;p51,1;u1;");
         Check.due("cut to 0", z.flow(), 0);
         Check.due("LIVE all the same", z.count(6), 1);
     }
