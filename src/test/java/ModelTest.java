@@ -4,7 +4,7 @@ import java.util.Random;
 
 /** Random runs of all calls, whose answers must be those of the model. */
 final class ModelTest {
-    private static final int RUNS = 500;
+    private static final int RUNS = 900;
     // One step may make some twenty calls, and nothing is promised behind the 512th.
     private static final int CALLS = 512 - 25;
     private static final int[] ODD = {Integer.MIN_VALUE, Integer.MIN_VALUE + 1, -65536, -9, -2, -1, 13, 51, 64, 201,

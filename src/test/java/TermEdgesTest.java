@@ -334,13 +334,12 @@ final class TermEdgesTest {
     private static void diesAt(int kind, int life, int bound, int dead) {
         String name = "KIND " + kind + ", LIFE " + life + ": ";
         Watched x = Check.with("p" + kind + life + ",1;g9;");
-        x.set(0, 990);
-        while (x.lamp(0, HURT) + 99 < bound) {
+        x.set(0, pushFor(99));
+        for (int h = 0; h < (bound - 1) / 99; h++) {
             hourAndTouch(x);
         }
-        int left = bound - 1 - x.lamp(0, HURT);
-        if (left > 0) {
-            x.set(0, pushFor(left));
+        if ((bound - 1) % 99 > 0) {
+            x.set(0, pushFor((bound - 1) % 99));
             hourAndTouch(x);
         }
         Check.due(name + "HURT", x.lamp(0, HURT), bound - 1);
