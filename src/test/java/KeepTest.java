@@ -48,7 +48,7 @@ final class KeepTest {
     /** A lamp that comes where one of a row that is gone was. */
     private static void newLampsAreNew() {
         Watched x = new Watched();
-        x.image();
+        Check.due("image at HOUR 0", x.image(), 0);
         Check.tell(x, "p01,1;");
         Check.due("it dies in mind", x.lasts(), 1);
         Check.due("it dies", x.hour(), 1);

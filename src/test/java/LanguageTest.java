@@ -7,7 +7,9 @@ import java.nio.file.Files;
 import java.nio.file.Path;
 import java.util.ArrayList;
 import java.util.List;
+import java.util.Map;
 import java.util.Set;
+import java.util.TreeMap;
 import java.util.TreeSet;
 import java.util.regex.Matcher;
 import java.util.regex.Pattern;
@@ -32,7 +34,9 @@ final class LanguageTest {
     public static void main(String[] args) throws IOException {
         face();
         nested();
-        words(withoutCommentsAndTexts(Files.readString(FILE)));
+        String code = withoutCommentsAndTexts(Files.readString(FILE));
+        words(code);
+        Check.due("calls go eight deep at most", deepest(callsOf(code)) <= 8 ? 1 : 0, 1);
         Check.close("LanguageTest");
     }
 
@@ -127,6 +131,50 @@ final class LanguageTest {
             Check.due("lines of a method", method.group(2).split("\n").length <= 60 ? 1 : 0, 1);
         }
         Check.due("methods were found", methods > 60 ? 1 : 0, 1);
+    }
+
+    /** For each method (its class and name) the names that it calls. */
+    private static Map<String, Set<String>> callsOf(String code) {
+        Map<String, Set<String>> calls = new TreeMap<>();
+        String inside = "";
+        Set<String> called = new TreeSet<>();
+        for (String line : code.split("\n")) {
+            Matcher type = Pattern.compile("\\bclass (\\w+) \\{").matcher(line);
+            Matcher method = Pattern.compile("(?: {4}| {8})(?! )[^=;]*?(\\w+)\\([^)]*\\) \\{").matcher(line);
+            if (type.find()) {
+                inside = type.group(1);
+            } else if (method.matches()) {
+                called = calls.computeIfAbsent(inside + "." + method.group(1), name -> new TreeSet<>());
+            } else {
+                Matcher call = Pattern.compile("(\\w+)\\(").matcher(line);
+                while (call.find()) {
+                    called.add(call.group(1));
+                }
+            }
+        }
+        return calls;
+    }
+
+    private static int deepest(Map<String, Set<String>> calls) {
+        int deepest = 0;
+        for (String method : calls.keySet()) {
+            deepest = Math.max(deepest, depthOf(method, calls, 1));
+        }
+        return deepest;
+    }
+
+    // Which class a call goes to cannot be read off its name, so all are taken that have it, but for the caller
+    // itself (a row copies its lamps by the same name). Calls in a ring would be endless, so it ends far above eight.
+    private static int depthOf(String method, Map<String, Set<String>> calls, int depth) {
+        int deepest = depth;
+        for (String other : calls.keySet()) {
+            String name = other.substring(other.indexOf('.') + 1);
+            if (depth < 20 && !name.equals(method.substring(method.indexOf('.') + 1))
+                && calls.get(method).contains(name)) {
+                deepest = Math.max(deepest, depthOf(other, calls, depth + 1));
+            }
+        }
+        return deepest;
     }
 
     private static int count(String code, String pattern) {
